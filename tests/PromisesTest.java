@@ -47,6 +47,7 @@ final class PromisesTest {
         undo();
         undoForgets();
         image();
+        imageOfRows();
         look();
         wildCalls();
         Due.finish("PromisesTest");
@@ -220,6 +221,8 @@ final class PromisesTest {
         is("may(4, 1, false)", x.may(4, 1, false), false);
         is("may(-1, 1, false)", x.may(-1, 1, false), false);
         is("may(1, 4, false)", x.may(1, 4, false), false);
+        is("may(1, 4, true)", x.may(1, 4, true), false);
+        is("may(4, 0, true)", x.may(4, 0, true), false);
         is("may(1, -1, false)", x.may(1, -1, false), false);
     }
 
@@ -260,8 +263,10 @@ final class PromisesTest {
         is("hours of 2", x.of(2, 8), 1);
         // hour 2: work 1 is done
         is("hours(1)", x.hours(1), 1);
+        is("today of 0", x.of(0, 7), 1);
         is("hours(5)", x.hours(5), 0);
         is("bell 0: today", x.of(2, 7), 0);
+        is("bell 0: today", x.of(0, 7), 0);
         is("hours stay", x.of(2, 8), 1);
         tell(2, "work 0 takes 3;");
         tell(3, "tool 0 man 0 work 0 from 8 for 2;");
@@ -296,6 +301,17 @@ final class PromisesTest {
         x.set(5, 0, 0);
         x.hours(9);
         is("no draws without rust", x.look(6), state);
+        int first = 0;
+        while ((first * 1664525 + 1013904223 >>> 8) % 1000 != 0) {
+            first++;
+        }
+        x.set(0, 0, 1);
+        x.set(0, 1, 0);
+        x.state(first);
+        x.set(5, 0, 1);
+        x.hours(1);
+        is("a draw of 0 is below 1", x.of(0, 3), 0);
+        is("one draw, since the others have no edge", x.look(6), first * 1664525 + 1013904223);
     }
 
     // promises 10, 11
@@ -391,7 +407,12 @@ final class PromisesTest {
         Due.fault(x, 0, "will  ", 1, 6);
         Due.fault(x, 0, "  wil;", 1, 2);
         Due.fault(x, 0, "Will;", 1, 0);
-        Due.fault(x, 0, "willX;", 1, 0);
+        for (String letter : new String[] {"A", "X", "Z", "a", "x", "z"}) {
+            Due.fault(x, 0, "will" + letter + ";", 1, 0);
+        }
+        for (String sign : new String[] {"@", "[", "`", "{", ":", "_", "\u0000", "\r", "\u00a0", "\u00ff"}) {
+            Due.fault(x, 0, "will" + sign + ";", 1, 4);
+        }
         Due.fault(x, 0, "will\t;", 1, 4);
         Due.fault(x, 0, "will\u00e9;", 1, 4);
         Due.fault(x, 0, "wear 1;", 1, 0);
@@ -456,8 +477,8 @@ final class PromisesTest {
         x.set(3, 2, 5);
         String[] texts = {"skill", "edge", "moods", "today", "kind", "same", "branch", "bell", "weekday", "served",
             "2+3*4", "2*3+4", "9-4-3", "9-4+3", "20/3*3", "20*3/7", "1-8/3", "0-8/3", "9999*9999*9999", "1+2*3*4-5",
-            "7-2*3-1", "0007"};
-        int[] due = {50, 60, 41, 0, 1, 1, 2, 0, 0, 0, 14, 10, 2, 8, 18, 8, -1, -2, -999, 20, 0, 7};
+            "7-2*3-1", "0007", "skill/1"};
+        int[] due = {50, 60, 41, 0, 1, 1, 2, 0, 0, 0, 14, 10, 2, 8, 18, 8, -1, -2, -999, 20, 0, 7, 50};
         for (int i = 0; i < texts.length; i++) {
             tell(1, "like " + texts[i] + ";");
             is(texts[i], x.tells(2, 0, 2), due[i]);
@@ -544,6 +565,9 @@ final class PromisesTest {
         is("alike: the lesser tool", x.at(0, 2), 1);
         tell(0, "wont when skill=30;");
         is("whom none serves", x.at(1, 2), -1);
+        tell(0, "wont when edge=70;");
+        is("tool 0 alone", x.at(0, 2), 0);
+        is("tool 0 alone", x.at(1, 2), -1);
         tell(0, "wont when kind=0;");
         is("one for two", x.of(2, 11), 0);
         is("one for two", x.at(1, 2), -1);
@@ -612,6 +636,8 @@ final class PromisesTest {
         is("a week later", x.serves(0, 0), 0);
         x.set(3, 0, 7);
         is("no day off", x.serves(0, 0), 1);
+        x.set(0, 0, 1);
+        is("an edge above 0", x.serves(0, 0), 1);
         x.set(0, 0, 0);
         is("no edge", x.serves(0, 0), 0);
     }
@@ -850,6 +876,8 @@ final class PromisesTest {
         is("idle(2)", x.idle(2), 6);
         is("idle(3)", x.idle(3), 2);
         is("idle(99)", x.idle(99), 2);
+        tell(3, "");
+        is("nobody works", x.idle(5), 7);
         is("idle(0)", x.idle(0), -1);
         is("idle(100)", x.idle(100), -1);
         is("idle of nobody", new ToolUnion().idle(1), 0);
@@ -1109,6 +1137,32 @@ final class PromisesTest {
         x.set(0, 0, 6);
         x.image(false);
         is("taken anew", x.of(0, 3), 5);
+    }
+
+    /** What stands where the image had something else must go back, too. */
+    private static void imageOfRows() {
+        yard();
+        tell(3, "tool 0 man 0 work 0 from 0 for 1;tool 1 man 1 work 2 from 0 for 1;");
+        x.seen(0, 1);
+        x.seen(2, 1);
+        x.hours(1);
+        x.image(true);
+        is("an image forgets nothing", x.undo(), true);
+        tell(2, "work 0 takes 1;work 1 takes 3;work 1 takes 2 after 1;");
+        tell(3, "tool 2 man 1 work 1 from 0 for 1;");
+        x.hours(1);
+        x.seen(1, 2);
+        x.seen(1, 2);
+        is("book", x.book(0, 1), 2);
+        x.image(false);
+        is("book", x.book(0, 1) + 10 * x.book(0, 2) + 100 * x.book(0, 3), 0);
+        is("book", x.book(1, 1) + 10 * x.book(1, 2) + 100 * x.book(1, 3), 211);
+        is("orders", x.orders(0), 2);
+        is("the first", x.orders(11), 2);
+        is("takes", x.work(0, 1), 2);
+        is("after", x.work(1, 2), 1);
+        is("kind", x.work(2, 0), 0);
+        is("rota", x.runs(1, 1), 0);
     }
 
     // promise 34
