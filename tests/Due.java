@@ -4,6 +4,8 @@ import java.nio.charset.StandardCharsets;
 final class Due {
     private static int wrong = 0;
     private static int asked = 0;
+    /** Which promise and which sentence the answers are for, where a test says so. */
+    static String sentence = "";
 
     private Due() {
     }
@@ -12,7 +14,7 @@ final class Due {
         asked++;
         if (got != want) {
             wrong++;
-            System.out.println(call + " answered " + got + ", due is " + want);
+            System.out.println(sentence + call + " answered " + got + ", due is " + want);
         }
     }
 
