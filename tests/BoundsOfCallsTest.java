@@ -136,11 +136,34 @@ final class BoundsOfCallsTest extends Bounds {
             is("of it", x.of(2, 3 + what), value[what]);
         }
         is("of another one", x.of(1, 3) + x.of(1, 4) + x.of(1, 5) + x.of(1, 6), 118);
+        for (int i = 3; i < 8; i++) {
+            x.tool(0, 0, 0);
+        }
+        for (int i = 0; i < 8; i++) {
+            for (int what = 0; what < 4; what++) {
+                is("set", x.set(what, i, i & 7), true);
+            }
+        }
+        for (int i = 0; i < 8; i++) {
+            is("of each", 1000 * x.of(i, 3) + 100 * x.of(i, 4) + 10 * x.of(i, 5) + x.of(i, 6), 1111 * i);
+        }
 
         of(5, "4 SKILL of MAN who; ");
         is("set(4, 1, 98)", x.set(4, 1, 98), true);
         is("at(1, 0)", x.at(1, 0), 98);
         is("at(0, 0)", x.at(0, 0), 50);
+        x.man(0, 0);
+        x.man(0, 0);
+        for (int i = 0; i < 4; i++) {
+            is("the most", x.set(4, i, 99), true);
+            is("it is", x.at(i, 0), 99);
+            is("the least", x.set(4, i, 0), true);
+            is("it is", x.at(i, 0), 0);
+            x.set(4, i, 10 + i);
+        }
+        for (int i = 0; i < 4; i++) {
+            is("of each", x.at(i, 0), 10 + i);
+        }
 
         of(5, "5 RUST, 6 QUOTA (who not asked): true; ");
         for (int who : new int[] {0, -1, 8, LEAST, MOST}) {
@@ -688,7 +711,7 @@ final class BoundsOfCallsTest extends Bounds {
         of(22, "or another what.");
         yard();
         x.may(2, 1, false);
-        for (int what : new int[] {-1, 1, 9, 14, 15, LEAST, MOST}) {
+        for (int what : new int[] {-1, 1, 9, 14, 15, 32, 42, 43, -21, -22, LEAST, LEAST + 11, MOST}) {
             is("changes(" + what + ")", x.changes(what), -1);
         }
     }

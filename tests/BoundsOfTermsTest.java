@@ -286,6 +286,8 @@ final class BoundsOfTermsTest extends Bounds {
         is("lines with and without when", tell(1, "wear 1;mood 1;like 1;wear 1 when 1=1;mood 1 when 1=1;like 1 when 1=1;"), 6);
         fault(1, "will;", 1, 0);
         fault(1, "moods 1;", 1, 0);
+        fault(1, "when 1;", 1, 0);
+        fault(1, "wont;", 1, 0);
         fault(1, "wear;", 1, 4);
         fault(1, "wear when 1=1;", 1, 5);
         fault(1, "wear 1 2;", 1, 7);
@@ -439,6 +441,18 @@ final class BoundsOfTermsTest extends Bounds {
         is("the least int", servesWhen("0-4634*4634*100-9782*9-10<0"), 1);
         is("minus wraps", servesWhen("0-4634*4634*100-9782*9-11>0"), 1);
         is("a quotient above 0 goes down", likes("7/2"), 3);
+        tapesOfTokens();
+    }
+
+    /** As many tokens as bytes, and texts as long as a TAPE, again and again. */
+    private static void tapesOfTokens() {
+        fault(0, ";".repeat(400), 1, 0);
+        fault(1, "like 1" + "+1".repeat(197), 1, 400);
+        fault(1, "like 1" + "+".repeat(394), 1, 7);
+        for (int i = 0; i < 3; i++) {
+            is("the longest sum", tell(1, "like1" + "+1".repeat(197) + ";"), 1);
+            is("like", x.tells(0, 0, 2), 198);
+        }
     }
 
     private static void faults() {

@@ -188,6 +188,49 @@ final class BoundsOfThoughtTest extends Bounds {
         is("the couples go around", 10 * x.soonest(0) + x.soonest(1), 13);
         x.set(0, 0, 61);
         is("both the first man alone", 10 * x.soonest(0) + x.soonest(1), 21);
+        soonestOfKinds();
+    }
+
+    /** More WORKS of a KIND are open than couples for it, though there would be MEN, or TOOLS, for as many of all KINDS. */
+    private static void soonestOfKinds() {
+        String chains = "work 0 takes 1;work 0 takes 1;work 1 takes 1;work 1 takes 3 after 0;work 1 takes 3 after 1;";
+        kinds(1, 3, 4, chains);
+        is("0 and 1 can't be done at once", 10 * x.soonest(0) + x.soonest(1), 51);
+        kinds(2, 3, 4, chains);
+        is("by two tools they can", 10 * x.soonest(0) + x.soonest(1), 43);
+        tell(0, "wont when kind=0 and skill>0;");
+        is("both serve the first man alone", 10 * x.soonest(0) + x.soonest(1), 51);
+        kinds(1, 2, 2, "work 0 takes 1;work 0 takes 1;work 1 takes 1;work 1 takes 1;");
+        is("one of each kind", 10 * x.soonest(0) + x.soonest(1), 25);
+        kinds(2, 1, 3, "work 0 takes 3;work 0 takes 3;work 0 takes 2;work 1 takes 2;work 1 takes 1;");
+        is("two of kind 0 each hour", 10 * x.soonest(0) + x.soonest(1), 43);
+        kinds(2, 1, 3, "work 0 takes 1;work 1 takes 1;work 1 takes 1;work 1 takes 2 after 2;work 1 takes 1 after 3;");
+        is("one of kind 1 each hour", 10 * x.soonest(0) + x.soonest(1), 52);
+        kinds(2, 1, 2, "work 0 takes 1;work 0 takes 2;work 0 takes 1;work 1 takes 1 after 0 after 1 after 2;");
+        is("both must be at work for two hours", 10 * x.soonest(0) + x.soonest(1), 33);
+        fresh();
+        for (int kind = 0; kind < 4; kind++) {
+            x.tool(kind, 0, 0);
+        }
+        for (int i = 0; i < 3; i++) {
+            x.man(0, 0);
+        }
+        tell(2, "work 0 takes 1;work 1 takes 1;work 2 takes 1;work 3 takes 1;");
+        is("three men for four kinds", 10 * x.soonest(0) + x.soonest(1), 21);
+        x.man(0, 0);
+        is("four men for four kinds", 10 * x.soonest(0) + x.soonest(1), 10 + 15);
+    }
+
+    /** So many tools of kind 0, of kind 1, and men of skills 0 and more. */
+    private static void kinds(int ofKind0, int ofKind1, int men, String hull) {
+        fresh();
+        for (int i = 0; i < ofKind0 + ofKind1; i++) {
+            x.tool(i < ofKind0 ? 0 : 1, 0, 0);
+        }
+        for (int i = 0; i < men; i++) {
+            x.man(i, 0);
+        }
+        is("a hull", tell(2, hull) > 0, true);
     }
 
     private static void stop() {
@@ -204,6 +247,10 @@ final class BoundsOfThoughtTest extends Bounds {
         is("one of them serves nobody", 100 * x.few(0) + x.few(1), 224);
         x.strike(0, true);
         is("it has none already", x.few(0) + x.few(1), 0);
+        yard();
+        x.strike(0, true);
+        x.strike(1, true);
+        is("one kind has none already, another has some", x.few(0) + x.few(1), 0);
         crewOf(8, 1, "work 0 takes 1;");
         is("all tools", 1000 * x.few(0) + x.few(1), 8255);
 
@@ -819,6 +866,7 @@ final class BoundsOfThoughtTest extends Bounds {
         x.strike(3, true);
         x.may(0, 3, false);
         String was = all();
+        int first = order(3);
         x.image(true);
         ruin();
         is("all is another", all().equals(was), false);
@@ -832,6 +880,9 @@ final class BoundsOfThoughtTest extends Bounds {
         is("what can be undone is other than it was", x.look(10), 4);
         x.image(false);
         imageIs(was);
+        is("the first order", order(3), first);
+        is("the book", 1000 * x.book(1, 0) + 100 * x.book(1, 1) + 10 * x.book(1, 2) + x.book(1, 3), 1000);
+        imageOfTheBook();
 
         Doc.of(THOUGHT, "but the TAPE, fault() and what can be undone (nothing then), ");
         yard();
@@ -877,6 +928,34 @@ final class BoundsOfThoughtTest extends Bounds {
         is("NONE", ToolUnion.NONE, -1);
     }
 
+    /** Lines that were undone and written anew since then go back, too. */
+    private static void imageOfTheBook() {
+        yard();
+        tell(3, "tool 0 man 0 work 0 from 0 for 1;tool 1 man 1 work 2 from 0 for 1;");
+        x.hours(1);
+        x.image(true);
+        x.undo();
+        tell(3, "tool 1 man 1 work 0 from 0 for 1;tool 0 man 0 work 2 from 0 for 1;");
+        x.hours(1);
+        is("the first line", 100 * x.book(0, 1) + 10 * x.book(0, 2) + x.book(0, 3), 110);
+        x.image(false);
+        is("the first line", 100 * x.book(0, 1) + 10 * x.book(0, 2) + x.book(0, 3), 0);
+        is("the second line", 100 * x.book(1, 1) + 10 * x.book(1, 2) + x.book(1, 3), 112);
+        is("the rota", x.runs(1, 1), 0);
+        tell(3, "");
+        tell(2, "work 0 takes 1;work 0 takes 1;work 0 takes 1;");
+        x.seen(0, 1);
+        x.seen(0, 2);
+        x.image(true);
+        tell(2, "work 0 takes 1;work 0 takes 1;work 0 takes 1;");
+        x.seen(2, 1);
+        x.seen(1, 0);
+        is("the order", order(3), 210);
+        x.image(false);
+        is("the orders", x.orders(0), 2);
+        is("the order", order(3), 12);
+    }
+
     /** Everything told is told anew. */
     private static void ruin() {
         x.state(4);
@@ -896,8 +975,13 @@ final class BoundsOfThoughtTest extends Bounds {
         x.seen(2, 0);
         tell(0, "");
         tell(1, "");
-        tell(2, "work 3 takes 1;");
-        tell(3, "tool 1 man 1 work 0 from 5 for 1;");
+        for (int i = 0; i < 5; i++) {
+            x.undo();
+        }
+        tell(2, "work 1 takes 3;work 1 takes 3;work 1 takes 3;");
+        x.seen(2, 1);
+        x.seen(1, 0);
+        tell(3, "tool 2 man 1 work 2 from 0 for 9;tool 2 man 0 work 1 from 0 for 9;");
         x.hours(3);
     }
 
