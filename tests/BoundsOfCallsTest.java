@@ -428,9 +428,11 @@ final class BoundsOfCallsTest extends Bounds {
         is("what was seen", x.look(11), 1);
 
         of(12, "(A HULL told: A ROTA is empty then, nothing SEEN.)");
+        tell(3, "tool 0 man 0 work 0 from 0 for 99;tool 2 man 0 work 0 from 0 for 99;");
         is("an empty hull", tell(2, ""), 0);
         is("look(9)", x.look(9), 0);
         is("look(11)", x.look(11), 0);
+        is("nothing is done or refused", x.runs(9, 0) + x.runs(9, 1), 0);
         is("the laws stay", x.look(7) + x.look(8), 2);
         is("the hour stays", x.look(3), 1);
         is("the book stays", x.look(5), 1);
@@ -440,6 +442,8 @@ final class BoundsOfCallsTest extends Bounds {
         tell(3, "tool 0 man 0 work 0 from 0 for 1;");
         tell(2, "work 0 takes 2;work 1 takes 1 after 0;work 0 takes 1;");
         is("of the same hull, too", x.look(9) + x.look(11), 0);
+        is("nothing is refused", x.hours(2), 0);
+        is("nothing is done", x.work(0, 3), 0);
         is("orders", x.orders(0), 3);
     }
 

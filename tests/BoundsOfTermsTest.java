@@ -383,6 +383,10 @@ final class BoundsOfTermsTest extends Bounds {
         fault(3, "tool 0 man 0 work 0 for 1 from 0;", 1, 20);
         fault(3, "tool 0 man 0 work 0 from 0;", 1, 26);
         is("the rota stays", x.look(9), 1);
+        tell(3, "tool 0 man 0 work 0 from 0 for 1;tool 0 man 0 work 1 from 0 for 1;tool 0 man 0 work 1 from 0 for 1;");
+        is("three lines, two are refused", x.runs(1, 1), 2);
+        tell(3, "tool 0 man 0 work 0 from 0 for 1;");
+        is("told anew it has its own lines alone", x.runs(1, 1), 0);
         tell(2, "");
         fault(3, "tool 0 man 0 work 0 from 0 for 1;", 2, 18);
         fresh();

@@ -208,6 +208,13 @@ final class BoundsOfThoughtTest extends Bounds {
         is("one of kind 1 each hour", 10 * x.soonest(0) + x.soonest(1), 52);
         kinds(2, 1, 2, "work 0 takes 1;work 0 takes 2;work 0 takes 1;work 1 takes 1 after 0 after 1 after 2;");
         is("both must be at work for two hours", 10 * x.soonest(0) + x.soonest(1), 33);
+        for (int man = 0; man < 4; man++) {
+            crewOf(8, 4, "work 0 takes 1;".repeat(8));
+            x.set(4, man, 49);
+            is("four men", x.soonest(0), 2);
+            tell(0, "wont when skill=49;");
+            is("none serves man " + man, 10 * x.soonest(0) + x.soonest(1), 33);
+        }
         fresh();
         for (int kind = 0; kind < 4; kind++) {
             x.tool(kind, 0, 0);
@@ -221,12 +228,14 @@ final class BoundsOfThoughtTest extends Bounds {
         is("four men for four kinds", 10 * x.soonest(0) + x.soonest(1), 10 + 15);
     }
 
-    /** So many tools of kind 0, of kind 1, and men of skills 0 and more. */
+    /** So many tools of kind 0, of kind 1, one of each other kind, and men of skills 0 and more. */
     private static void kinds(int ofKind0, int ofKind1, int men, String hull) {
         fresh();
         for (int i = 0; i < ofKind0 + ofKind1; i++) {
             x.tool(i < ofKind0 ? 0 : 1, 0, 0);
         }
+        x.tool(2, 0, 0);
+        x.tool(3, 0, 0);
         for (int i = 0; i < men; i++) {
             x.man(i, 0);
         }
