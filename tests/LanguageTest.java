@@ -1,3 +1,5 @@
+import java.lang.reflect.Field;
+import java.lang.reflect.Modifier;
 import java.nio.file.Files;
 import java.nio.file.Path;
 import java.util.ArrayList;
@@ -7,7 +9,7 @@ import java.util.Set;
 import java.util.regex.Matcher;
 import java.util.regex.Pattern;
 
-/** The rules of LANGUAGE.md that can be seen by reading the program's lines. Its argument: the program's file. */
+/** The rules of LANGUAGE.md that can be seen by reading the program's lines, or its classes. Its argument: the program's file. */
 final class LanguageTest {
     private static final Pattern METHOD =
         Pattern.compile("^( {4}| {8})(public |private )?(static )?(\\w+(?:\\[\\])?) (\\w+)\\(([^)]*)\\) \\{$");
@@ -20,6 +22,8 @@ final class LanguageTest {
         String code = bare(String.join("\n", lines));
         words(code);
         methods(lines);
+        library(code);
+        classes();
         Due.finish("LanguageTest");
     }
 
@@ -47,6 +51,40 @@ final class LanguageTest {
         none(code, "rule 4: none that ends in Exact", "Exact\\(");
         int classes = code.split("\\bclass \\w+", -1).length - 1;
         Due.is("LANGUAGE.md: rule 11: classes (" + classes + ")", classes <= 13, true);
+    }
+
+    private static void library(String code) {
+        Matcher m = Pattern.compile("\\b(Math|Integer|Long|System|Arrays|String|List)\\.(\\w+)").matcher(code);
+        while (m.find()) {
+            boolean fine = m.group(1).matches("Math|Integer|System")
+                && m.group(2).matches("max|min|bitCount|lowestOneBit|numberOfTrailingZeros|arraycopy");
+            Due.is("LANGUAGE.md: rule 4: " + m.group(), fine, true);
+        }
+    }
+
+    private static void classes() {
+        fields(ToolUnion.class);
+        for (Class<?> c : ToolUnion.class.getDeclaredClasses()) {
+            Due.is("LANGUAGE.md: rule 2: static " + c.getName(), Modifier.isStatic(c.getModifiers()), true);
+            Due.is("LANGUAGE.md: rule 1: not public " + c.getName(), Modifier.isPublic(c.getModifiers()), false);
+            Due.is("LANGUAGE.md: rule 2: none inside " + c.getName(), c.getDeclaredClasses().length, 0);
+            fields(c);
+        }
+    }
+
+    private static void fields(Class<?> c) {
+        int own = 0;
+        for (Field f : c.getDeclaredFields()) {
+            if (Modifier.isStatic(f.getModifiers())) {
+                Due.is("LANGUAGE.md: rule 5: " + c.getName() + "." + f.getName(), Modifier.isFinal(f.getModifiers()), true);
+            } else {
+                own++;
+            }
+            Class<?> type = f.getType().isArray() ? f.getType().getComponentType() : f.getType();
+            boolean fine = type.isPrimitive() || type == String.class || type.getName().startsWith("ToolUnion$");
+            Due.is("LANGUAGE.md: rule 3: " + c.getName() + "." + f.getName(), fine, true);
+        }
+        Due.is("LANGUAGE.md: rule 11: fields of " + c.getName() + " (" + own + ")", own <= 20, true);
     }
 
     private static void methods(List<String> lines) {
